@@ -1,0 +1,32 @@
+/** Counts and prints the answers that are not as due. */
+final class Check {
+    private static final int MOST_PRINTED = 20;
+    private static int wrong = 0;
+    private static long looked = 0;
+
+    private Check() {
+    }
+
+    static void due(long got, long want, String call, int... arguments) {
+        looked++;
+        if (got == want) {
+            return;
+        }
+        wrong++;
+        if (wrong <= MOST_PRINTED) {
+            String list = java.util.Arrays.toString(arguments);
+            System.out.println(call + list + " answered " + got + ", due is " + want);
+        }
+    }
+
+    static void holds(boolean condition, String what) {
+        due(condition ? 1 : 0, 1, what);
+    }
+
+    static void finish() {
+        System.out.println(looked + " answers looked at, " + wrong + " not as due");
+        if (wrong != 0 || looked == 0) {
+            System.exit(1);
+        }
+    }
+}
