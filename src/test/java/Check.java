@@ -2,6 +2,7 @@
 final class Check {
     private static final int MOST_PRINTED = 20;
     private static int wrong = 0;
+    private static int printed = 0;
     private static long looked = 0;
 
     private Check() {
@@ -13,7 +14,8 @@ final class Check {
             return;
         }
         wrong++;
-        if (wrong <= MOST_PRINTED) {
+        printed++;
+        if (printed <= MOST_PRINTED) {
             String list = java.util.Arrays.toString(arguments);
             System.out.println(call + list + " answered " + got + ", due is " + want);
         }
@@ -21,6 +23,19 @@ final class Check {
 
     static void holds(boolean condition, String what) {
         due(condition ? 1 : 0, 1, what);
+    }
+
+    /** Runs the test of one sentence of the document; a test that looks at nothing is wrong too. */
+    static void sentence(String words, Runnable test) {
+        printed = 0;
+        int wrongBefore = wrong;
+        long lookedBefore = looked;
+        test.run();
+        if (looked == lookedBefore) {
+            wrong++;
+        }
+        String verdict = wrong == wrongBefore ? "holds" : "BROKEN";
+        System.out.println(verdict + ": \"" + words + "\"");
     }
 
     static void finish() {

@@ -1,30 +1,28 @@
 /** Promise 9. */
 public final class CompareTest {
-    private static final HalfFloat HALF = new HalfFloat();
-
     private static void pair(int a, int b) {
         int want = 2 + Long.compare(Oracle.units(a), Oracle.units(b));
-        Check.due(HALF.compare(a, b), want, "compare", a, b);
+        Check.due(Calls.half().compare(a, b), want, "compare", a, b);
     }
 
     private static void named() {
-        Check.due(HALF.compare(15360, 15361), 1, "less");
-        Check.due(HALF.compare(15360, 15360), 2, "equal");
-        Check.due(HALF.compare(15361, 15360), 3, "greater");
-        Check.due(HALF.compare(48129, 48128), 1, "less, both below 0");
-        Check.due(HALF.compare(0, 32768), 2, "0 and -0");
-        Check.due(HALF.compare(32768, 0), 2, "-0 and 0");
-        Check.due(HALF.compare(32768, 1), 1, "-0 and the least");
-        Check.due(HALF.compare(32768, 32769), 3, "-0 and the least below 0");
-        Check.due(HALF.compare(64511, 31743), 1, "both ends");
+        Check.due(Calls.half().compare(15360, 15361), 1, "less");
+        Check.due(Calls.half().compare(15360, 15360), 2, "equal");
+        Check.due(Calls.half().compare(15361, 15360), 3, "greater");
+        Check.due(Calls.half().compare(48129, 48128), 1, "less, both below 0");
+        Check.due(Calls.half().compare(0, 32768), 2, "0 and -0");
+        Check.due(Calls.half().compare(32768, 0), 2, "-0 and 0");
+        Check.due(Calls.half().compare(32768, 1), 1, "-0 and the least");
+        Check.due(Calls.half().compare(32768, 32769), 3, "-0 and the least below 0");
+        Check.due(Calls.half().compare(64511, 31743), 1, "both ends");
     }
 
     public static void main(String[] args) {
         named();
         for (int bad : Inputs.REFUSED) {
-            Check.due(HALF.compare(bad, 15360), -1, "compare", bad, 15360);
-            Check.due(HALF.compare(15360, bad), -1, "compare", 15360, bad);
-            Check.due(HALF.compare(bad, bad), -1, "compare", bad, bad);
+            Check.due(Calls.half().compare(bad, 15360), -1, "compare", bad, 15360);
+            Check.due(Calls.half().compare(15360, bad), -1, "compare", 15360, bad);
+            Check.due(Calls.half().compare(bad, bad), -1, "compare", bad, bad);
         }
         for (int a : Inputs.edges()) {
             for (int b : Inputs.edges()) {

@@ -2,7 +2,6 @@ import java.math.BigInteger;
 
 /** Promises 7 and 8, over every pattern: the writings are found by trying all pairs. */
 public final class WritingTest {
-    private static final HalfFloat HALF = new HalfFloat();
     private static final int LEAST_X = -14;
     private static final int GREATEST_X = 6;
     private static final int[] DIGITS = new int[Oracle.NONE];
@@ -46,20 +45,20 @@ public final class WritingTest {
     }
 
     private static void named() {
-        Check.due(HALF.digits(15360), 1, "d of 1");
-        Check.due(HALF.exponent(15360), 0, "x of 1");
-        Check.due(HALF.digits(48128), 1, "d of -1");
-        Check.due(HALF.exponent(48128), 0, "x of -1");
-        Check.due(HALF.digits(0), 0, "d of 0");
-        Check.due(HALF.exponent(0), 0, "x of 0");
-        Check.due(HALF.digits(32768), 0, "d of -0");
-        Check.due(HALF.exponent(32768), 0, "x of -0");
-        Check.due(HALF.digits(1), 6, "d of the least");
-        Check.due(HALF.exponent(1), -8, "x of the least");
-        Check.due(HALF.digits(31743), 655, "d of the greatest");
-        Check.due(HALF.exponent(31743), 2, "x of the greatest");
-        Check.due(HALF.digits(11878), 1, "d of 0.1, from below");
-        Check.due(HALF.exponent(11878), -1, "x of 0.1, from below");
+        Check.due(Calls.half().digits(15360), 1, "d of 1");
+        Check.due(Calls.half().exponent(15360), 0, "x of 1");
+        Check.due(Calls.half().digits(48128), 1, "d of -1");
+        Check.due(Calls.half().exponent(48128), 0, "x of -1");
+        Check.due(Calls.half().digits(0), 0, "d of 0");
+        Check.due(Calls.half().exponent(0), 0, "x of 0");
+        Check.due(Calls.half().digits(32768), 0, "d of -0");
+        Check.due(Calls.half().exponent(32768), 0, "x of -0");
+        Check.due(Calls.half().digits(1), 6, "d of the least");
+        Check.due(Calls.half().exponent(1), -8, "x of the least");
+        Check.due(Calls.half().digits(31743), 655, "d of the greatest");
+        Check.due(Calls.half().exponent(31743), 2, "x of the greatest");
+        Check.due(Calls.half().digits(11878), 1, "d of 0.1, from below");
+        Check.due(Calls.half().exponent(11878), -1, "x of 0.1, from below");
     }
 
     public static void main(String[] args) {
@@ -67,21 +66,22 @@ public final class WritingTest {
         findWritings();
         for (int a = 1; a < Oracle.NONE; a++) {
             Check.holds(DIGITS[a] != 0, "a writing was found for " + a);
-            Check.due(HALF.digits(a), DIGITS[a], "digits", a);
-            Check.due(HALF.exponent(a), EXPONENTS[a], "exponent", a);
-            Check.due(HALF.digits(a + 32768), DIGITS[a], "digits", a + 32768);
-            Check.due(HALF.exponent(a + 32768), EXPONENTS[a], "exponent", a + 32768);
-            Check.due(HALF.parse(HALF.digits(a), HALF.exponent(a)), a, "parse of the writing", a);
+            Check.due(Calls.half().digits(a), DIGITS[a], "digits", a);
+            Check.due(Calls.half().exponent(a), EXPONENTS[a], "exponent", a);
+            Check.due(Calls.half().digits(a + 32768), DIGITS[a], "digits", a + 32768);
+            Check.due(Calls.half().exponent(a + 32768), EXPONENTS[a], "exponent", a + 32768);
+            int parsed = Calls.half().parse(DIGITS[a], EXPONENTS[a]);
+            Check.due(parsed, a, "parse of the writing", a);
         }
         for (int a = -70000; a <= 140000; a++) {
             if (!Inputs.isNumber(a)) {
-                Check.due(HALF.digits(a), -1, "digits", a);
-                Check.due(HALF.exponent(a), 100, "exponent", a);
+                Check.due(Calls.half().digits(a), -1, "digits", a);
+                Check.due(Calls.half().exponent(a), 100, "exponent", a);
             }
         }
         for (int bad : Inputs.REFUSED) {
-            Check.due(HALF.digits(bad), -1, "digits", bad);
-            Check.due(HALF.exponent(bad), 100, "exponent", bad);
+            Check.due(Calls.half().digits(bad), -1, "digits", bad);
+            Check.due(Calls.half().exponent(bad), 100, "exponent", bad);
         }
         Check.finish();
     }
