@@ -178,6 +178,16 @@ public final class TermsTest {
         // The two quotients that come nearest to a half step.
         divide(15360, 16383, 14337);
         divide(16040, 16381, 15018);
+        // Just above a half step, by a rest far behind the digits that are kept.
+        divide(1, 2047, 4097);
+        divide(1, 1100, 4979);
+        divide(2, 3071, 4097);
+        divide(4, 7167, 1025);
+        divide(32769, 2047, 36865);
+        root(593, 7703);
+        root(1213, 8283);
+        root(15549, 15451);
+        root(30882, 23063);
         // The two roots that come nearest to a half step.
         root(15359, 15359);
         root(2895, 9126);
