@@ -10,19 +10,25 @@ final class Check {
 
     static void due(long got, long want, String call, int... arguments) {
         looked++;
-        if (got == want) {
-            return;
-        }
-        wrong++;
-        printed++;
-        if (printed <= MOST_PRINTED) {
+        if (got != want) {
             String list = java.util.Arrays.toString(arguments);
-            System.out.println(call + list + " answered " + got + ", due is " + want);
+            report(call + list + " answered " + got + ", due is " + want);
         }
     }
 
     static void holds(boolean condition, String what) {
-        due(condition ? 1 : 0, 1, what);
+        looked++;
+        if (!condition) {
+            report("does not hold: " + what);
+        }
+    }
+
+    private static void report(String line) {
+        wrong++;
+        printed++;
+        if (printed <= MOST_PRINTED) {
+            System.out.println(line);
+        }
     }
 
     /** Runs the test of one sentence of the document; a test that looks at nothing is wrong too. */

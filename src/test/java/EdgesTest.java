@@ -1,6 +1,6 @@
 /**
- * Each sentence of the promises that names a boundary has a test of its own, with answers worked
- * out by hand: the last argument inside and the first outside, on both sides.
+ * Each sentence of the promises that names a boundary has a test of its own, with fixed answers:
+ * for the last argument inside and the first outside, on both sides.
  */
 public final class EdgesTest {
     /** For each call of Calls: two arguments and the answer due. */

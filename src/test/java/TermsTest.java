@@ -1,6 +1,6 @@
 /**
- * Each sentence of 'Terms' that names a boundary has a test of its own, with answers worked out by
- * hand: the last argument inside and the first outside, on both sides.
+ * Each sentence of 'Terms' that names a boundary has a test of its own, with fixed answers: for the
+ * last argument inside and the first outside, on both sides.
  */
 public final class TermsTest {
     private static void add(int a, int b, int want) {
